@@ -73,5 +73,10 @@ public final class BoardTest {
                 "seen 21 15 = -1", "freeze 1 20 12 4 4 1 0 = 1", "area 1 0 = 4", "move 0 0 2 0 = 1", "seen 23 15 = -1",
                 "freeze 1 20 12 4 4 1 0 = IllegalStateException", "there = 1", "move 0 0 -24 -16 = 1",
                 "move 0 0 -2 0 = 1", "seen 0 0 = 0", "move 0 0 -2 0 = 1", "seen 0 0 = -1");
+        Calls.run("terms, a wide shape that lies mostly beyond the board",
+                "add 0 0 0 24 1 1 = 0", "add 1 0 0 24 1 2 = 1", "move 0 0 22 0 = 1", "move 0 1 23 0 = 1",
+                "seen 22 0 = 0", "seen 23 0 = 1", "freeze 0 0 0 24 1 1 0 = 0", "area 0 0 = 1", "area 0 1 = 1",
+                "move 0 0 24 0 = 1", "move 0 1 -24 0 = 1", "move 0 1 -22 0 = 1", "freeze 0 0 0 24 1 1 0 = 1",
+                "area 1 0 = 0", "area 1 1 = 1", "viewed 1 0 0 = 2", "viewed 1 1 0 = 0");
     }
 }

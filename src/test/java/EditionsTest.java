@@ -62,6 +62,9 @@ public final class EditionsTest {
         Calls.run("terms, an act that did nothing is held by what it names",
                 "add 0 0 0 2 2 1 = 0", "add 0 3 3 2 2 2 = 1", "drop 1 1 = 1", "undo 1 = 2", "join 2 0 1 = 2", "redo 1 = 2",
                 "group 0 = 1", "freeze 0 0 0 2 2 1 0 = 0", "holder 3 = 0", "holder 2 = -1", "withdraw 0 = 2");
+        Calls.run("terms, colours and distances name no shape",
+                "add 0 5 5 2 2 1 = 0", "add 1 0 0 2 2 2 = 1", "paint 2 0 1 = 1", "move 2 0 1 1 = 1",
+                "freeze 0 0 0 2 2 1 0 = 0", "holder 1 = 0", "holder 2 = -1", "holder 3 = -1", "withdraw 0 = 1");
         Calls.run("terms, redone acts of lower numbers leave the view as it is",
                 "add 0 0 0 2 2 1 = 0", "drop 1 0 = 0", "undo 1 = 1", "paint 2 0 3 = 1", "freeze 2 0 0 2 2 2 10 = 0",
                 "undo 2 = IllegalStateException", "redo 1 = 1", "there = 0", "viewed 0 0 0 = 3", "area 0 0 = 4",
