@@ -1,11 +1,15 @@
 import java.lang.reflect.InvocationTargetException;
 import java.lang.reflect.Method;
 import java.util.ArrayList;
+import java.util.HashMap;
 import java.util.List;
+import java.util.Map;
 
 /** Runs of calls written as lines: "add 0 0 0 5 5 1 = 0", or "undo 0 = IllegalStateException". */
 final class Calls {
-    private static final int PROBED_SHAPES = 8, PROBED_ACTS = 12, PROBED_EDITIONS = 4, PROBED_COPIES = 3;
+    /** What the document promises of one object ends here. */
+    static final int MOST_CALLS = 512;
+    private static final Map<String, Method> METHODS = new HashMap<>();
     private static int wrong = 0;
 
     private Calls() {
@@ -13,14 +17,19 @@ final class Calls {
 
     /** Makes the calls on one new object; each that is refused must also leave all as it was. */
     static void run(String name, List<String> lines) {
+        if (lines.size() > MOST_CALLS) {
+            due(name, lines.size() + " calls", "at most " + MOST_CALLS);
+        }
         CanvasRoom room = new CanvasRoom();
+        List<String> before = new ArrayList<>();
         for (int k = 0; k < lines.size(); k++) {
-            String call = lines.get(k).split("=")[0].trim();
-            String due = lines.get(k).split("=")[1].trim();
+            String call = callOf(lines.get(k));
+            String due = lines.get(k).substring(lines.get(k).indexOf('=') + 1).trim();
             due(name + ", line " + (k + 1) + ": " + call, ask(room, call), due);
             if (due.endsWith("Exception")) {
-                checkNothingChanged(name, lines.subList(0, k), call);
+                checkNothingChanged(name, before, call);
             }
+            before.add(call);
         }
     }
 
@@ -43,82 +52,63 @@ final class Calls {
     }
 
     /** The same lines, so many times, one behind the other. */
-    static List<String> times(int count, String line) {
+    static List<String> times(int count, String... some) {
         List<String> lines = new ArrayList<>();
         for (int k = 0; k < count; k++) {
-            lines.add(line);
+            lines.addAll(List.of(some));
         }
         return lines;
     }
 
     static List<String> joined(List<String> first, String... second) {
+        return joined(first, List.of(second));
+    }
+
+    static List<String> joined(List<String> first, List<String> second) {
         List<String> lines = new ArrayList<>(first);
-        lines.addAll(List.of(second));
+        lines.addAll(second);
         return lines;
     }
 
-    private static void checkNothingChanged(String name, List<String> before, String refused) {
-        CanvasRoom without = new CanvasRoom();
-        CanvasRoom with = new CanvasRoom();
-        for (String line : before) {
-            ask(without, line.split("=")[0].trim());
-            ask(with, line.split("=")[0].trim());
+    static String callOf(String line) {
+        int end = line.indexOf('=');
+        return (end < 0 ? line : line.substring(0, end)).trim();
+    }
+
+    /** Compares an object on which the refused call was made with one on which it was not. */
+    static void checkNothingChanged(String name, List<String> before, String refused) {
+        int left = MOST_CALLS - before.size() - 1;
+        if (left <= 0) {
+            return;
         }
+        List<String> asking = Probe.asking(before);
+        for (int from = 0; from < asking.size(); from += left) {
+            compare(name, before, refused, asking.subList(from, Math.min(asking.size(), from + left)));
+        }
+        for (List<String> changing : Probe.changing(before)) {
+            compare(name, before, refused, changing.subList(0, Math.min(changing.size(), left)));
+        }
+    }
+
+    private static void compare(String name, List<String> before, String refused, List<String> probe) {
+        CanvasRoom without = roomAfter(before);
+        CanvasRoom with = roomAfter(before);
         ask(with, refused);
-        due(name + ": the state behind the refused " + refused, probe(with), probe(without));
-    }
-
-    /** What an object answers; the later calls change it, so that the probe sees what can be redone and sold. */
-    private static String probe(Object room) {
-        StringBuilder text = new StringBuilder();
-        tell(room, text, "acts", "shapes", "there", "house");
-        for (int hand = 0; hand < 6; hand++) {
-            tell(room, text, "money " + hand, "moneyAnew " + hand);
-        }
-        for (int buyer = 0; buyer < 8; buyer++) {
-            tell(room, text, "purse " + buyer);
-        }
-        probeBoard(room, text);
-        for (int edition = 0; edition < PROBED_EDITIONS; edition++) {
-            probeEdition(room, text, edition);
-        }
-        for (int hand = 0; hand < 6; hand++) {
-            tell(room, text, "redo " + hand, "undo " + hand, "undo " + hand);
-        }
-        probeBoard(room, text);
-        return text.toString();
-    }
-
-    private static void probeBoard(Object room, StringBuilder text) {
-        for (int shape = 0; shape < PROBED_SHAPES; shape++) {
-            tell(room, text, "place " + shape, "colour " + shape, "above " + shape, "group " + shape);
-        }
-        int acts = Integer.parseInt(ask(room, "acts"));
-        for (int act = Math.max(0, acts - PROBED_ACTS); act < acts; act++) {
-            tell(room, text, "isLive " + act, "holder " + act);
-        }
-        for (int cell = 0; cell < 12; cell++) {
-            tell(room, text, "seen " + cell + " " + cell);
+        for (String call : probe) {
+            due(name + ", behind the refused " + refused + ": " + call, ask(with, call), ask(without, call));
         }
     }
 
-    private static void probeEdition(Object room, StringBuilder text, int edition) {
-        tell(room, text, "viewed " + edition + " 0 0", "viewed " + edition + " 1 0", "area " + edition + " 0",
-                "area " + edition + " 1");
-        for (int copy = 0; copy < PROBED_COPIES; copy++) {
-            tell(room, text, "copyState " + edition + " " + copy, "owner " + edition + " " + copy);
-        }
-        tell(room, text, "giveBack " + edition + " 0", "resell " + edition + " 1 7 5", "sell " + edition + " 6");
-    }
-
-    private static void tell(Object room, StringBuilder text, String... calls) {
+    static CanvasRoom roomAfter(List<String> calls) {
+        CanvasRoom room = new CanvasRoom();
         for (String call : calls) {
-            text.append(call).append(" = ").append(ask(room, call)).append("; ");
+            ask(room, callOf(call));
         }
+        return room;
     }
 
     static String ask(Object room, String call) {
-        String[] words = call.split(" +");
+        String[] words = call.split(" ");
         int[] arguments = new int[words.length - 1];
         for (int k = 0; k < arguments.length; k++) {
             arguments[k] = Integer.parseInt(words[k + 1]);
@@ -154,9 +144,15 @@ final class Calls {
     }
 
     private static Method method(Class<?> type, String name) {
+        String key = type.getName() + "." + name;
+        Method known = METHODS.get(key);
+        if (known != null) {
+            return known;
+        }
         for (Method method : type.getDeclaredMethods()) {
             if (method.getName().equals(name)) {
                 method.setAccessible(true);
+                METHODS.put(key, method);
                 return method;
             }
         }
