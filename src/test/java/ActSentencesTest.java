@@ -261,6 +261,8 @@ public final class ActSentencesTest {
         Sentences.holds(10, none, "add 0 0 0 1 1 1 = 0", "paint 1 0 2 = 1", "paint 1 0 3 = 2", "undo 1 = 2", "undo 1 = 1",
                 "paint 0 0 4 = 1", "redo 1 = 1", "paint 1 0 5 = 4", "redo 1 = IllegalStateException", "undo 1 = 4",
                 "undo 1 = 1", "redo 1 = 1", "redo 1 = 4", "redo 1 = IllegalStateException", "isLive 2 = 0");
+        Sentences.holds(10, none, "add 0 0 0 1 1 1 = 0", "undo 0 = 0", "add 0 0 0 1 1 1 = 1", "redo 0 = IllegalStateException",
+                "undo 0 = 1", "redo 0 = 1", "redo 0 = IllegalStateException", "isLive 0 = 0");
         Sentences.holds(10, none, Calls.joined(acts(200), "undo 0 = 199", "undo 0 = 198", "redo 0 = 198", "redo 0 = 199",
                 "redo 0 = IllegalStateException"));
     }
@@ -329,7 +331,8 @@ public final class ActSentencesTest {
         Sentences.holds(promise, NO_HAND_OR_SHAPE, Calls.joined(Sentences.shapes(2),
                 name + "-1 0" + thrown, name + "6 0" + thrown, name + "0 -1" + thrown, name + "0 2" + thrown,
                 name + "5 1" + rest + " = " + due, "add 0 0 0 1 1 1 = 2", name + "0 2" + rest + " = " + laterDue,
-                name + "0 3" + thrown, "undo 0 = 4", "undo 0 = 3", name + "6 2" + thrown, name + "0 3" + thrown));
+                name + "0 3" + thrown, "undo 0 = 4", "undo 0 = 3", name + "6 2" + thrown, name + "0 3" + thrown,
+                "undo 5 = 2", name + "4 0" + rest + " = " + due));
     }
 
     /** The call names the shape 0 of three, and answers with due as long as that is there, and not taken down. */

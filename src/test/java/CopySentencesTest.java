@@ -139,6 +139,9 @@ public final class CopySentencesTest {
                 "freeze 0 0 0 1 1 2 0 = 0", "takeDown 1 = 0", "copyState 0 0 = 0");
         Sentences.holds(28, changed, "add 0 0 0 1 1 1 = 0", "add 1 0 0 1 1 1 = 1", "freeze 0 0 0 1 1 2 0 = 0", "sell 0 0 = 0",
                 "takeDown 0 = 0", "copyState 0 0 = 1", "takeDown 1 = 1", "copyState 0 0 = 2");
+        Sentences.holds(28, changed, "add 0 0 0 1 1 1 = 0", "add 1 1 0 1 1 1 = 1", "freeze 0 0 0 1 1 1 0 = 0",
+                "freeze 0 0 0 2 1 1 0 = 1", "sell 0 0 = 0", "sell 1 0 = 0", "move 0 1 -1 0 = 1", "drop 0 0 = 1",
+                "takeDown 1 = 1", "accept 1 0 = 0", "takeDown 0 = 2");
         Sentences.holds(28, changed, Calls.joined(Calls.joined(editions(1, 20), sales(20)), "takeDown 0 = 20"));
     }
 
@@ -147,6 +150,9 @@ public final class CopySentencesTest {
                 "takeDown -1 = IndexOutOfBoundsException", "takeDown 0 = IndexOutOfBoundsException", "add 0 0 0 1 1 1 = 0",
                 "takeDown 1 = IndexOutOfBoundsException", "takeDown 0 = 0", "add 0 0 0 1 1 1 = 1", "takeDown 1 = 0",
                 "takeDown 2 = IndexOutOfBoundsException", "takeDown -1 = IndexOutOfBoundsException");
+        Sentences.holds(28, "Throws `IllegalStateException` if it was taken down", "add 0 0 0 1 1 1 = 0", "undo 0 = 0",
+                "takeDown 0 = 0", "takeDown 0 = IllegalStateException", "add 0 0 0 1 1 1 = 1", "drop 0 1 = 0", "takeDown 1 = 0",
+                "undo 0 = 2", "takeDown 1 = IllegalStateException");
         Sentences.holds(28, "Throws `IllegalStateException` if it was taken down", "add 0 0 0 1 1 1 = 0",
                 "add 1 0 0 1 1 1 = 1", "takeDown 0 = 0", "takeDown 0 = IllegalStateException", "undo 0 = 0",
                 "takeDown 0 = IllegalStateException", "redo 0 = 0", "takeDown 0 = IllegalStateException", "takeDown 1 = 0",

@@ -7,7 +7,12 @@ public final class EditionSentencesTest {
     private static final String HAND = "`hand`: 0 to 5";
     private static final String EDITION = "`edition`: its number";
     private static final String NO_EDITION = "Throws `IndexOutOfBoundsException` if there is no such edition";
+    private static final String CANNOT_FREEZE =
+            "Throws `IllegalStateException` if no cell of the view shows a shape, or there are 8 editions";
     private static final List<String> WHOLE_BOARD = List.of("add 0 0 0 24 16 7 = 0");
+    /** Each corner of the view has a colour of its own. */
+    private static final List<String> VIEW = List.of("add 0 0 0 24 16 1 = 0", "add 1 4 3 1 1 2 = 1",
+            "add 1 10 3 1 1 3 = 2", "add 1 4 8 1 1 4 = 3", "add 1 10 8 1 1 5 = 4", "freeze 0 4 3 7 6 1 0 = 0");
 
     public static void main(String[] args) throws IOException {
         freezeRanges();
@@ -94,9 +99,6 @@ public final class EditionSentencesTest {
                         "freeze 0 0 17 1 -1 1 0 = IllegalArgumentException", "freeze 0 0 0 1 1 1 0 = 3"));
     }
 
-    private static final String CANNOT_FREEZE =
-            "Throws `IllegalStateException` if no cell of the view shows a shape, or there are 8 editions";
-
     private static void nothingSeen() {
         Sentences.holds(22, CANNOT_FREEZE, "freeze 0 0 0 24 16 1 0 = IllegalStateException", "add 0 5 5 3 3 1 = 0",
                 "freeze 0 0 0 5 16 1 0 = IllegalStateException", "freeze 0 0 0 6 16 1 0 = 0",
@@ -151,9 +153,6 @@ public final class EditionSentencesTest {
     }
 
     // ---- promise 24, viewed
-
-    private static final List<String> VIEW = List.of("add 0 0 0 24 16 1 = 0", "add 1 4 3 1 1 2 = 1",
-            "add 1 10 3 1 1 3 = 2", "add 1 4 8 1 1 4 = 3", "add 1 10 8 1 1 5 = 4", "freeze 0 4 3 7 6 1 0 = 0");
 
     private static void viewed() {
         editionRange(24, "viewed ? 0 0 = 7", "withdraw ? = 1", "viewed ? 0 0 = 7");

@@ -115,6 +115,7 @@ final class Sentences {
      * numbers stand for the first promise and the last, two more for others.
      */
     static void areAllTested(int... firstsAndLasts) throws IOException {
+        Set<String> due = new LinkedHashSet<>();
         Set<String> written = new LinkedHashSet<>();
         int promise = 0;
         for (String line : Files.readAllLines(DOCUMENT)) {
@@ -122,11 +123,14 @@ final class Sentences {
                 promise = line.startsWith("## Promise ") ? Integer.parseInt(line.split("[ :]+")[2]) : 0;
             }
             String sentence = sentence(line);
-            if (isWithin(promise, firstsAndLasts) && !sentence.isEmpty()) {
+            if (promise > 0 && !sentence.isEmpty()) {
                 written.add("Promise " + promise + ": " + sentence);
             }
+            if (isWithin(promise, firstsAndLasts) && !sentence.isEmpty()) {
+                due.add("Promise " + promise + ": " + sentence);
+            }
         }
-        Calls.due("sentences without a test", without(written, tested), "[]");
+        Calls.due("sentences without a test", without(due, tested), "[]");
         Calls.due("tests without a sentence", without(tested, written), "[]");
     }
 

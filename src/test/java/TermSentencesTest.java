@@ -8,6 +8,10 @@ public final class TermSentencesTest {
     private static final String FIRST_LISTED =
             "If several exceptions apply to a call, the one that its comment lists first is thrown.";
     private static final String NOTHING_CHANGES = "A call that throws an exception changes nothing.";
+    /** Shape 2 is not there, 3 is taken down; hands 3 and 4 can redo an act. */
+    private static final List<String> PAINTED = List.of("add 0 0 0 4 4 1 = 0", "add 1 2 2 4 4 2 = 1", "add 2 4 4 2 2 3 = 2",
+            "add 3 0 0 1 1 4 = 3", "join 4 0 1 = 2", "drop 5 2 = 3", "takeDown 3 = 0", "paint 3 1 6 = 2", "undo 3 = 6",
+            "move 4 0 1 0 = 2", "undo 4 = 7", "redo 4 = 7", "paint 4 0 9 = 1", "undo 4 = 8");
 
     public static void main(String[] args) throws IOException {
         callsOfTrade();
@@ -161,11 +165,6 @@ public final class TermSentencesTest {
                 "resell 0 0 0 100001 = IllegalArgumentException", "resell 0 1 1 5 = IllegalStateException",
                 "resell 0 0 0 5 = IllegalStateException"));
     }
-
-    /** Shape 2 is not there, 3 is taken down; hands 3 and 4 can redo an act. */
-    private static final List<String> PAINTED = List.of("add 0 0 0 4 4 1 = 0", "add 1 2 2 4 4 2 = 1", "add 2 4 4 2 2 3 = 2",
-            "add 3 0 0 1 1 4 = 3", "join 4 0 1 = 2", "drop 5 2 = 3", "takeDown 3 = 0", "paint 3 1 6 = 2", "undo 3 = 6",
-            "move 4 0 1 0 = 2", "undo 4 = 7", "redo 4 = 7", "paint 4 0 9 = 1", "undo 4 = 8");
 
     private static void refusedActs() {
         Sentences.term(NOTHING_CHANGES, Calls.joined(PAINTED, "add 6 0 0 1 1 1 = IndexOutOfBoundsException",
@@ -401,6 +400,8 @@ public final class TermSentencesTest {
             Sentences.term(forgotten, "add 0 0 0 1 1 1 = 0", "add 1 1 0 1 1 1 = 1", "paint 0 0 2 = 1", "undo 0 = 2", act,
                     "redo 0 = IllegalStateException", "undo 0 = 3", "redo 0 = 3", "isLive 2 = 0");
         }
+        Sentences.term(forgotten, "add 0 0 0 1 1 1 = 0", "paint 0 0 2 = 1", "undo 0 = 1", "undo 0 = 0", "add 0 1 1 1 1 1 = 1",
+                "redo 0 = IllegalStateException", "undo 0 = 2", "redo 0 = 2", "redo 0 = IllegalStateException", "there = 2");
         Sentences.term(forgotten, "add 0 0 0 1 1 1 = 0", "add 1 1 0 1 1 1 = 1", "paint 0 0 2 = 1", "undo 0 = 2",
                 "paint 1 0 5 = 1", "undo 1 = 3", "redo 1 = 3", "freeze 0 1 0 1 1 1 0 = 0", "withdraw 0 = 1", "takeDown 1 = 0",
                 "redo 0 = 2", "isLive 2 = 1");
