@@ -33,6 +33,10 @@ public final class ActSentencesTest {
         acts();
         isLive();
         holder();
+        eachHandAdds();
+        eachHandChangesShapes();
+        eachHandGroups();
+        eachHandUndoes();
         Sentences.areAllTested(2, 13);
         Calls.end();
     }
@@ -306,6 +310,80 @@ public final class ActSentencesTest {
         Sentences.holds(13, NO_ACT, "holder -1 = IndexOutOfBoundsException", "holder 0 = IndexOutOfBoundsException",
                 "add 0 0 0 1 1 1 = 0", "holder 0 = -1", "holder 1 = IndexOutOfBoundsException", "undo 0 = 0",
                 "holder 0 = -1", "holder 1 = IndexOutOfBoundsException", "holder -1 = IndexOutOfBoundsException");
+    }
+
+    // ---- what each call is, by each hand
+
+    private static void eachHandAdds() {
+        for (int hand = 0; hand < 6; hand++) {
+            int other = (hand + 1) % 6;
+            Sentences.holds(2, "A hand adds a shape.", "add " + hand + " 2 3 4 5 6 = 0", "shapes = 1", "acts = 1", "there = 1",
+                    "isLive 0 = 1", "place 0 = 30002", "colour 0 = 6", "above 0 = 0", "group 0 = 1", "seen 2 3 = 0",
+                    "seen 5 7 = 0", "seen 1 3 = -1", "seen 2 2 = -1", "seen 6 7 = -1", "seen 5 8 = -1",
+                    "freeze " + other + " 0 0 24 16 1 0 = 0", "area 0 " + hand + " = 20", "area 0 " + other + " = 0",
+                    "withdraw 0 = 1", "undo " + other + " = IllegalStateException", "undo " + hand + " = 0", "there = 0",
+                    "shapes = 1", "add " + hand + " 0 0 25 1 1 = IllegalArgumentException", "redo " + hand + " = 0", "there = 1");
+        }
+    }
+
+    private static void eachHandChangesShapes() {
+        for (int hand = 0; hand < 6; hand++) {
+            List<String> three = List.of("add 0 2 2 2 2 1 = 0", "add 1 3 3 2 2 2 = 1", "add 2 9 9 1 1 3 = 2");
+            Sentences.holds(3, "A hand moves a shape, with its group.", Calls.joined(three, "join 0 0 1 = 2",
+                    "move " + hand + " 1 -2 3 = 2", "place 0 = 50000", "place 1 = 60001", "place 2 = 90009", "seen 0 5 = 0",
+                    "seen 2 2 = -1", "isLive 4 = 1", "move " + hand + " 1 25 0 = IllegalArgumentException", "part 0 0 = 1",
+                    "move " + hand + " 1 1 0 = 1", "place 0 = 50000", "place 1 = 60002", "undo " + hand + " = 6",
+                    "place 1 = 60001"));
+            Sentences.holds(4, "A hand paints a shape.", Calls.joined(three, "join 0 0 1 = 2", "paint " + hand + " 1 9 = 2",
+                    "colour 1 = 9", "colour 0 = 1", "colour 2 = 3", "place 1 = 30003", "above 1 = 1", "isLive 4 = 1",
+                    "paint " + hand + " 1 10 = IllegalArgumentException", "freeze 0 4 4 1 1 1 0 = 0", "viewed 0 0 0 = 9",
+                    "withdraw 0 = 3", "undo " + hand + " = 4", "colour 1 = 2"));
+            Sentences.holds(5, "A hand puts a shape above all others, or below all others.", Calls.joined(three,
+                    "seen 3 3 = 1", "layer " + hand + " 0 1 = 3", "above 0 = 2", "above 1 = 0", "above 2 = 1", "seen 3 3 = 0",
+                    "layer " + hand + " 2 0 = 3", "above 2 = 0", "above 1 = 1", "above 0 = 2", "layer " + hand + " 0 0 = 3",
+                    "above 0 = 0", "above 2 = 1", "seen 3 3 = 1", "layer " + hand + " 3 1 = IndexOutOfBoundsException",
+                    "undo " + hand + " = 5", "seen 3 3 = 0", "undo " + hand + " = 4", "above 2 = 1", "undo " + hand + " = 3",
+                    "seen 3 3 = 1"));
+        }
+    }
+
+    private static void eachHandGroups() {
+        for (int hand = 0; hand < 6; hand++) {
+            List<String> four = Calls.joined(Sentences.shapes(4), "join 1 2 3 = 2");
+            Sentences.holds(6, "A hand joins the groups of two shapes.", Calls.joined(four, "join " + hand + " 0 3 = 3",
+                    "group 0 = 13", "group 2 = 13", "group 3 = 13", "group 1 = 2", "isLive 5 = 1",
+                    "join " + hand + " 1 1 = IllegalArgumentException", "undo " + hand + " = 5", "group 0 = 1", "group 3 = 12"));
+            Sentences.holds(7, "A hand parts a shape from its group.", Calls.joined(four, "join 2 0 2 = 3",
+                    "part " + hand + " 2 = 2", "group 2 = 4", "group 0 = 9", "group 3 = 9", "there = 15", "isLive 6 = 1",
+                    "part " + hand + " 4 = IndexOutOfBoundsException", "undo " + hand + " = 6", "group 2 = 13"));
+            Sentences.holds(8, "A hand drops a shape.", Calls.joined(four, "join 2 0 2 = 3", "drop " + hand + " 2 = 3",
+                    "there = 11", "group 2 = 0", "group 0 = 9", "colour 2 = 0", "above 3 = 2", "seen 2 0 = -1", "shapes = 4",
+                    "isLive 6 = 1", "drop " + hand + " 2 = IllegalStateException", "undo " + hand + " = 6", "there = 15",
+                    "group 2 = 13", "seen 2 0 = 2"));
+        }
+    }
+
+    private static void eachHandUndoes() {
+        for (int hand = 0; hand < 6; hand++) {
+            int other = (hand + 1) % 6;
+            List<String> told = List.of("add " + hand + " 0 0 1 1 1 = 0", "paint " + other + " 0 2 = 1",
+                    "paint " + hand + " 0 3 = 2", "paint " + other + " 0 4 = 3", "paint " + hand + " 0 5 = 4",
+                    "paint " + other + " 0 6 = 5");
+            Sentences.holds(9, "A hand undoes its latest live act.", Calls.joined(told, "undo " + hand + " = 4", "isLive 4 = 0",
+                    "isLive 5 = 1", "colour 0 = 6", "undo " + other + " = 5", "colour 0 = 4", "undo " + hand + " = 2",
+                    "colour 0 = 4", "undo " + other + " = 3", "colour 0 = 2", "redo " + hand + " = 2", "undo " + hand + " = 2",
+                    "undo " + hand + " = 0", "undo " + hand + " = IllegalStateException", "isLive 1 = 1", "there = 0"));
+            Sentences.holds(10, "A hand redoes the act that it has undone last.", Calls.joined(told,
+                    "undo " + hand + " = 4", "undo " + other + " = 5", "undo " + hand + " = 2", "undo " + other + " = 3",
+                    "redo " + hand + " = 2", "isLive 2 = 1", "isLive 4 = 0", "colour 0 = 3", "redo " + hand + " = 4",
+                    "colour 0 = 5", "redo " + hand + " = IllegalStateException", "redo " + other + " = 3", "colour 0 = 5",
+                    "undo " + hand + " = 4", "redo " + hand + " = 4", "redo " + other + " = 5", "colour 0 = 6",
+                    "redo " + other + " = IllegalStateException"));
+            Sentences.holds(12, "Tells whether an act is live.", Calls.joined(told, "isLive 0 = 1", "isLive 5 = 1",
+                    "isLive 6 = IndexOutOfBoundsException", "undo " + hand + " = 4", "isLive 4 = 0", "isLive 2 = 1",
+                    "isLive 5 = 1", "redo " + hand + " = 4", "isLive 4 = 1", "drop " + hand + " 0 = 0", "isLive 4 = 1",
+                    "isLive 6 = 1", "isLive -1 = IndexOutOfBoundsException"));
+        }
     }
 
     // ---- what several promises say in the same words

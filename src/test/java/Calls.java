@@ -77,25 +77,30 @@ final class Calls {
 
     /** Compares an object on which the refused call was made with one on which it was not. */
     static void checkNothingChanged(String name, List<String> before, String refused) {
-        int left = MOST_CALLS - before.size() - 1;
+        checkSame(name + ", behind the refused " + refused, joined(before, refused), before);
+    }
+
+    /** Both objects answer all that can be asked alike, and go on alike. */
+    static void checkSame(String name, List<String> with, List<String> without) {
+        int left = MOST_CALLS - with.size();
         if (left <= 0) {
             return;
         }
-        List<String> asking = Probe.asking(before);
+        List<String> asking = Probe.asking(without);
         for (int from = 0; from < asking.size(); from += left) {
-            compare(name, before, refused, asking.subList(from, Math.min(asking.size(), from + left)));
+            compare(name, with, without, asking.subList(from, Math.min(asking.size(), from + left)));
         }
-        for (List<String> changing : Probe.changing(before)) {
-            compare(name, before, refused, changing.subList(0, Math.min(changing.size(), left)));
+        for (List<String> changing : Probe.changing(without)) {
+            compare(name, with, without, changing.subList(0, Math.min(changing.size(), left)));
         }
     }
 
-    private static void compare(String name, List<String> before, String refused, List<String> probe) {
-        CanvasRoom without = roomAfter(before);
-        CanvasRoom with = roomAfter(before);
-        ask(with, refused);
+    /** Makes the same calls on both objects: on the one that is due, and on the one that is tested. */
+    static void compare(String name, List<String> with, List<String> without, List<String> probe) {
+        CanvasRoom due = roomAfter(without);
+        CanvasRoom tested = roomAfter(with);
         for (String call : probe) {
-            due(name + ", behind the refused " + refused + ": " + call, ask(with, call), ask(without, call));
+            due(name + ": " + call, ask(tested, call), ask(due, call));
         }
     }
 

@@ -32,6 +32,9 @@ public final class CopySentencesTest {
         moneyAnew();
         purse();
         house();
+        eachBuyerTrades();
+        whatIsTakenDown();
+        eachOwnerChooses();
         Sentences.areAllTested(26, 36);
         Calls.end();
     }
@@ -287,6 +290,60 @@ public final class CopySentencesTest {
                 "sell 2 0 = 0", "house = 2", "sell 3 0 = 0", "house = 10002", "resell 3 0 1 100000 = 20000", "house = 10002",
                 "takeDown 0 = 4", "giveBack 3 0 = 100000", "house = 10002", "accept 1 0 = 0", "house = 10002", "sell 3 1 = 1",
                 "house = 20002");
+    }
+
+    // ---- what each call is
+
+    private static void eachBuyerTrades() {
+        for (int buyer = 0; buyer < 8; buyer++) {
+            int other = (buyer + 1) % 8;
+            Sentences.holds(26, "Sells the lowest copy of an edition that is UNSOLD.", Calls.joined(editions(2, 3),
+                    "sell 1 " + buyer + " = 0", "sell 1 " + other + " = 1", "sell 0 " + buyer + " = 0", "owner 1 0 = " + buyer,
+                    "owner 1 1 = " + other, "copyState 1 1 = 1", "copyState 1 2 = 0", "copyState 0 1 = 0", "takeDown 0 = 3",
+                    "giveBack 1 0 = 100", "sell 1 " + buyer + " = 2", "copyState 1 0 = 3",
+                    "sell 1 " + buyer + " = IllegalStateException", "sell 0 " + other + " = 1", "purse " + buyer + " = -200",
+                    "purse " + other + " = -200"));
+            Sentences.holds(27, "Sells a copy again, by its owner.", Calls.joined(editions(1, 2), "sell 0 " + buyer + " = 0",
+                    "sell 0 " + buyer + " = 1", "resell 0 0 " + other + " 51 = 10", "owner 0 0 = " + other,
+                    "owner 0 1 = " + buyer, "copyState 0 0 = 1", "purse " + buyer + " = -159", "purse " + other + " = -51",
+                    "money 0 = 190", "house = 20", "resell 0 0 " + other + " 51 = IllegalStateException",
+                    "resell 0 0 " + buyer + " 8 = 1", "purse " + other + " = -44", "purse " + buyer + " = -167"));
+        }
+    }
+
+    private static void whatIsTakenDown() {
+        for (int shape = 0; shape < 3; shape++) {
+            List<String> lines = Calls.joined(THREE_MAKERS, "freeze 4 0 0 3 1 1 0 = 1", "sell 0 0 = 0", "sell 0 1 = 1",
+                    "sell 1 2 = 0", "takeDown " + shape + " = " + (shape == 0 ? 3 : 2), "copyState 1 0 = " + (shape == 0 ? 2 : 1),
+                    "copyState 0 0 = 2", "copyState 0 2 = 0", "there = 7", "acts = 3", "colour " + shape + " = " + (shape + 1),
+                    "paint 5 " + shape + " 9 = IllegalStateException", "takeDown " + shape + " = IllegalStateException",
+                    "takeDown 3 = IndexOutOfBoundsException");
+            for (int column = 0; column < 6; column++) {
+                int shown = column < 3 ? 0 : column < 5 ? 1 : 2;
+                lines.add("seen " + column + " 0 = " + (shown == shape ? -1 : shown));
+                lines.add("viewed 0 " + column + " 0 = " + (shown == shape ? 0 : shown + 1));
+            }
+            lines.addAll(List.of("giveBack 0 0 = 100", "money 0 = " + (shape == 0 ? -10 : 90),
+                    "money 1 = " + (shape == 1 ? -40 : 60), "money 2 = " + (shape == 2 ? -70 : 30)));
+            Sentences.holds(28, "Takes a shape down.", lines);
+        }
+    }
+
+    private static void eachOwnerChooses() {
+        for (int buyer = 0; buyer < 8; buyer++) {
+            int other = (buyer + 1) % 8;
+            List<String> changed = Calls.joined(THREE_MAKERS, "sell 0 " + other + " = 0", "resell 0 0 " + buyer + " 60 = 12",
+                    "sell 0 " + other + " = 1", "takeDown 1 = 2");
+            Sentences.holds(29, "The owner accepts a changed copy.", Calls.joined(changed, "accept 0 0 = " + buyer,
+                    "copyState 0 0 = 1", "owner 0 0 = " + buyer, "copyState 0 1 = 2", "purse " + buyer + " = -60", "money 1 = 64",
+                    "giveBack 0 0 = IllegalStateException", "accept 0 0 = IllegalStateException",
+                    "resell 0 0 " + other + " 5 = 1", "accept 0 1 = " + other, "accept 0 20 = IndexOutOfBoundsException"));
+            Sentences.holds(30, "The owner gives a changed copy back.", Calls.joined(changed, "giveBack 0 0 = 60",
+                    "copyState 0 0 = 3", "owner 0 0 = -1", "copyState 0 1 = 2", "purse " + buyer + " = 0", "money 1 = 4",
+                    "money 0 = 96", "house = 20", "accept 0 0 = IllegalStateException", "giveBack 0 0 = IllegalStateException",
+                    "giveBack 0 1 = 100", "purse " + other + " = -52", "money 1 = -96",
+                    "giveBack 0 2 = IllegalStateException"));
+        }
     }
 
     // ---- what several promises say in the same words

@@ -26,6 +26,7 @@ public final class EditionSentencesTest {
         viewed();
         viewedThrows();
         area();
+        eachHandFreezes();
         Sentences.areAllTested(22, 25);
         Calls.end();
     }
@@ -206,6 +207,26 @@ public final class EditionSentencesTest {
                 "area 0 -1 = IndexOutOfBoundsException", "area 0 6 = IndexOutOfBoundsException", "area 0 0 = 1",
                 "area 0 5 = 0", "freeze 0 0 0 1 1 1 0 = 1", "area 1 0 = 1", "area 2 0 = IndexOutOfBoundsException",
                 "withdraw 1 = 1", "area 1 6 = IndexOutOfBoundsException");
+    }
+
+    // ---- what each call is
+
+    private static void eachHandFreezes() {
+        for (int hand = 0; hand < 6; hand++) {
+            List<String> told = List.of("add 0 2 1 3 2 4 = 0", "add 1 4 2 2 2 5 = 1", "add 2 20 9 1 1 6 = 2");
+            Sentences.holds(22, "A hand freezes a view as an edition.", Calls.joined(told, "freeze " + hand + " 1 1 4 2 2 11 = 0",
+                    "viewed 0 0 0 = 0", "viewed 0 1 0 = 4", "viewed 0 3 0 = 4", "viewed 0 2 1 = 4", "viewed 0 3 1 = 5",
+                    "viewed 0 4 0 = IndexOutOfBoundsException", "viewed 0 0 2 = IndexOutOfBoundsException", "area 0 0 = 5",
+                    "area 0 1 = 1", "area 0 2 = 0", "holder 0 = 0", "holder 1 = 0", "holder 2 = -1", "acts = 3", "sell 0 7 = 0",
+                    "house = 1", "purse 7 = -11", "money " + hand + " = " + (hand == 0 ? 9 : hand == 1 ? 2 : 1),
+                    "freeze " + hand + " 10 10 4 2 2 11 = IllegalStateException", "freeze " + hand + " 20 9 1 1 1 0 = 1",
+                    "holder 2 = 1"));
+        }
+        Sentences.holds(23, "Withdraws an edition.", "add 0 0 0 1 1 1 = 0", "freeze 1 0 0 1 1 2 10 = 0",
+                "freeze 1 0 0 1 1 2 10 = 1", "withdraw 0 = 1", "sell 0 0 = IllegalStateException", "holder 0 = 1",
+                "copyState 0 1 = 0", "owner 0 0 = -1", "area 0 0 = 1", "viewed 0 0 0 = 1", "sell 1 0 = 0",
+                "undo 0 = IllegalStateException", "withdraw 0 = IllegalStateException", "withdraw 1 = IllegalStateException",
+                "withdraw 2 = IndexOutOfBoundsException", "money 0 = 9", "house = 1");
     }
 
     // ---- what several promises say in the same words

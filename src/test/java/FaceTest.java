@@ -8,6 +8,8 @@ import java.util.ArrayList;
 import java.util.Arrays;
 import java.util.List;
 import java.util.TreeSet;
+import java.util.regex.Matcher;
+import java.util.regex.Pattern;
 import java.util.stream.Collectors;
 
 /** The class has the face that the document writes out, and no other member that others can reach. */
@@ -29,6 +31,7 @@ public final class FaceTest {
         }
         Calls.due("the methods", got.toString(), due.toString());
         checkOthers();
+        checkSections();
         Calls.end();
     }
 
@@ -48,6 +51,31 @@ public final class FaceTest {
         String start = "public static final int CanvasRoom.";
         Calls.due("the constants", constants.toString(), "[" + start + "CHANGED = 2, " + start + "NONE = -1, "
                 + start + "RETURNED = 3, " + start + "SOLD = 1, " + start + "UNSOLD = 0]");
+    }
+
+    /** "Ahead of the calls `add`, `move` the interface says: ---- acts." */
+    private static void checkSections() throws Exception {
+        String source = Files.readString(Path.of("src/main/java/CanvasRoom.java"));
+        int sections = 0;
+        for (String line : Files.readAllLines(Path.of("../shared/DOC.md"))) {
+            if (line.startsWith("Ahead of the calls ")) {
+                String head = line.substring(line.indexOf("---- "), line.length() - 1);
+                String rest = source.substring(source.indexOf("// " + head) + 3);
+                String section = rest.substring(0, rest.indexOf("// ----"));
+                Calls.due(head, all(section, "\n    public \\w+ (\\w+)\\(").toString(), all(line, "`(\\w+)`").toString());
+                sections++;
+            }
+        }
+        Calls.due("sections of the face", String.valueOf(sections), "4");
+    }
+
+    private static List<String> all(String text, String pattern) {
+        List<String> found = new ArrayList<>();
+        Matcher matcher = Pattern.compile(pattern).matcher(text);
+        while (matcher.find()) {
+            found.add(matcher.group(1));
+        }
+        return found;
     }
 
     private static String withoutNames(String declared) {

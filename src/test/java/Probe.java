@@ -24,6 +24,13 @@ final class Probe {
         return calls;
     }
 
+    /** What can be asked for of the board and its shapes. */
+    static List<String> board(int shapes) {
+        List<String> calls = new ArrayList<>(List.of("shapes", "there"));
+        addBoard(calls, shapes);
+        return calls;
+    }
+
     /** Undoing, redoing and acting on; selling, giving back and taking down: what comes of it tells what was kept. */
     static List<List<String>> changing(List<String> before) {
         CanvasRoom room = Calls.roomAfter(before);

@@ -111,8 +111,8 @@ final class Sentences {
     }
 
     /**
-     * Each range, each "Throws" and each "Returns" of the promises has a test, and no test bears other words. Two
-     * numbers stand for the first promise and the last, two more for others.
+     * Each sentence of the promises (what the call is, each range, each "Throws", each "Returns") has a test, and no
+     * test bears other words. Two numbers stand for the first promise and the last, two more for others.
      */
     static void areAllTested(int... firstsAndLasts) throws IOException {
         Set<String> due = new LinkedHashSet<>();
@@ -143,15 +143,12 @@ final class Sentences {
         return false;
     }
 
+    /** A line of a promise without what stands ahead of its sentence: the call as it is declared, or "-". */
     private static String sentence(String line) {
-        if (line.startsWith("- `")) {
+        if (line.startsWith("- ")) {
             return line.substring(2);
         }
-        if (line.startsWith("Throws ") || line.startsWith("Returns ")) {
-            return line;
-        }
-        int first = Math.max(line.indexOf(": Returns "), line.indexOf(": An empty board"));
-        return line.startsWith("`") && first >= 0 ? line.substring(first + 2) : "";
+        return line.startsWith("#") ? "" : line.substring(line.startsWith("`") ? line.indexOf("`: ") + 3 : 0);
     }
 
     /** Each sentence that is tested stands in the document, word by word. */
@@ -161,6 +158,23 @@ final class Sentences {
             String sentence = name.substring(name.indexOf(": ") + 2);
             Calls.due("the document's words: " + sentence, String.valueOf(text.contains(sentence)), "true");
         }
+    }
+
+    /** What is left of "What it is" and "Terms" without the words that are tested, and the others that are named. */
+    static void areAllWordsTested(String... others) throws IOException {
+        String text = Files.readString(DOCUMENT);
+        String left = between(text, "## What it is", "## The public face") + between(text, "## Terms", "## Promise 1:");
+        for (String name : tested) {
+            left = left.replace(name.substring(name.indexOf(": ") + 2), "");
+        }
+        for (String other : others) {
+            left = left.replaceAll("(?m)" + other, "");
+        }
+        Calls.due("words without a test", left.replaceAll("[^A-Za-z0-9]+", " ").trim(), "");
+    }
+
+    private static String between(String text, String from, String to) {
+        return text.substring(text.indexOf(from) + from.length(), text.indexOf(to));
     }
 
     private static String without(Set<String> names, Set<String> others) {

@@ -2,8 +2,11 @@ import java.io.IOException;
 import java.util.ArrayList;
 import java.util.List;
 
-/** "What it is" and "Terms", sentence by sentence. */
+/** "What it is" and "Terms", sentence by sentence, together with UnboundedSentences. */
 public final class TermSentencesTest {
+    /** Heads, what the document leaves free, and the order of the face, which FaceTest tests. */
+    private static final String[] NOT_TESTED = {"^(Shapes|Acts|What is seen|Editions|Takedowns|Money|The constants)[.:]",
+        "what later calls answer is free\\.", "^- ", "^Ahead of the calls .*"};
     private static final String CALLS = "An object is used for at most 512 calls after it has been made";
     private static final String FIRST_LISTED =
             "If several exceptions apply to a call, the one that its comment lists first is thrown.";
@@ -46,7 +49,9 @@ public final class TermSentencesTest {
         returned();
         below();
         payers();
+        UnboundedSentences.test();
         Sentences.areAllQuoted();
+        Sentences.areAllWordsTested(NOT_TESTED);
         Calls.end();
     }
 
