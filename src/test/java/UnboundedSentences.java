@@ -7,8 +7,8 @@ final class UnboundedSentences {
     private static final List<String> TOLD = List.of("add 0 0 0 3 2 1 = 0", "add 1 1 0 3 2 2 = 1", "add 2 5 5 2 2 3 = 2",
             "move 3 2 -1 0 = 1", "paint 1 0 4 = 1", "undo 1 = 4", "layer 2 0 1 = 3", "join 4 1 2 = 2", "part 4 1 = 1",
             "undo 2 = 5", "freeze 5 0 0 4 3 3 100 = 0", "drop 4 2 = 2", "undo 4 = 8", "redo 4 = 8", "redo 1 = 4", "undo 1 = 4",
-            "sell 0 0 = 0", "sell 0 1 = 1", "resell 0 0 2 40 = 8", "freeze 0 0 0 9 9 1 7 = 1", "takeDown 1 = 2", "accept 0 0 = 2",
-            "giveBack 0 1 = 100", "withdraw 1 = 4");
+            "sell 0 0 = 0", "sell 0 1 = 1", "resell 0 0 2 40 = 8", "freeze 0 0 0 9 9 1 7 = 1", "join 5 0 1 = 2",
+            "move 5 1 0 1 = 2", "takeDown 1 = 2", "accept 0 0 = 2", "giveBack 0 1 = 100", "withdraw 1 = 4");
 
     private UnboundedSentences() {
     }
@@ -82,8 +82,8 @@ final class UnboundedSentences {
         Sentences.term("undo and redo of each hand alone over what the others did since", "add 0 1 1 2 2 1 = 0",
                 "add 1 2 2 2 2 2 = 1", "paint 0 0 5 = 1", "paint 1 0 6 = 5", "move 2 0 1 0 = 1", "layer 0 0 1 = 2",
                 "join 1 0 1 = 2", "move 2 1 0 1 = 2", "place 0 = 20002", "place 1 = 30002", "seen 2 3 = 0", "undo 0 = 5",
-                "seen 2 3 = 1", "above 0 = 0", "place 0 = 20002", "undo 0 = 2", "colour 0 = 6", "undo 1 = 6", "place 0 = 10002",
-                "place 1 = 30002", "undo 1 = 3", "colour 0 = 1", "redo 0 = 2", "colour 0 = 5", "redo 1 = 3", "colour 0 = 6",
+                "seen 2 3 = 1", "above 0 = 0", "place 0 = 20002", "undo 0 = 2", "colour 0 = 6", "paint 3 1 9 = 2", "undo 1 = 6", "place 0 = 10002",
+                "place 1 = 30002", "undo 1 = 3", "colour 0 = 1", "paint 4 1 8 = 9", "redo 0 = 2", "colour 0 = 5", "redo 1 = 3", "colour 0 = 6",
                 "undo 2 = 7", "place 1 = 20002", "undo 2 = 4", "place 0 = 10001", "undo 2 = IllegalStateException", "redo 1 = 6",
                 "group 0 = 3", "place 0 = 10001", "redo 2 = 4", "place 0 = 10002", "place 1 = 20002", "redo 2 = 7",
                 "place 0 = 20002", "place 1 = 30002", "redo 0 = 5", "above 0 = 1", "seen 2 3 = 0", "redo 0 = IllegalStateException",
@@ -137,7 +137,7 @@ final class UnboundedSentences {
         for (String line : TOLD) {
             told.add(Calls.callOf(line));
         }
-        for (String ask : List.of("acts", "isLive 1", "isLive 9", "holder 1", "shapes", "there", "place 0", "place 2", "colour 2",
+        for (String ask : List.of("acts", "isLive 1", "isLive 4", "isLive 9", "holder 1", "holder 4", "shapes", "there", "place 0", "place 2", "colour 2",
                 "above 0", "group 1", "seen 2 1", "seen 24 0", "seenAnew 2 1", "seenAnew 9 9", "viewed 0 1 0", "viewed 0 9 0",
                 "area 0 1", "copyState 0 1", "owner 0 1", "money 1", "moneyAnew 1", "moneyAnew 5", "purse 0", "house")) {
             List<String> asking = new ArrayList<>();
@@ -233,8 +233,9 @@ final class UnboundedSentences {
             Sentences.term(ACT, Calls.joined(told, "join 3 " + shapes + " = 2", "isLive 2 = 1", "undo 2 = IllegalStateException",
                     "freeze 1 0 0 1 1 1 0 = 0", "freeze 1 5 5 1 1 1 0 = 1", "holder 0 = 0", "holder 1 = 1", "holder 2 = 0",
                     "withdraw 0 = 2", "holder 2 = 1", "undo 3 = IllegalStateException", "withdraw 1 = 2", "undo 3 = 2"));
-            Sentences.term(ACT, Calls.joined(told, "join 4 " + shapes + " = 2", "move 3 1 0 0 = 2", "part 5 1 = 1",
+            Sentences.term(ACT, Calls.joined(told, "join 4 " + shapes + " = 2", "move 3 1 0 0 = 2", "paint 5 1 2 = 1",
                     "freeze 1 0 0 1 1 1 0 = 0", "holder 2 = 0", "holder 3 = -1", "holder 4 = -1", "undo 3 = 3", "undo 5 = 4",
+                    "part 5 1 = 1", "freeze 1 0 0 1 1 1 0 = 1", "withdraw 0 = 2", "holder 5 = -1", "undo 5 = 5",
                     "undo 4 = IllegalStateException"));
         }
     }
@@ -350,7 +351,9 @@ final class UnboundedSentences {
     private static void constants() {
         Sentences.term("`NONE = -1`: None.", "add 0 0 0 1 1 1 = 0", "holder 0 = " + CanvasRoom.NONE,
                 "seen 1 0 = " + CanvasRoom.NONE, "seenAnew 1 0 = " + CanvasRoom.NONE, "freeze 0 0 0 1 1 1 0 = 0",
-                "owner 0 0 = " + CanvasRoom.NONE, "drop 0 0 = 0", "above 0 = " + CanvasRoom.NONE);
+                "owner 0 0 = " + CanvasRoom.NONE, "sell 0 0 = 0", "takeDown 0 = 1", "giveBack 0 0 = 0",
+                "owner 0 0 = " + CanvasRoom.NONE, "seen 0 0 = " + CanvasRoom.NONE, "add 0 0 0 1 1 1 = 1", "drop 0 1 = 1",
+                "above 1 = " + CanvasRoom.NONE);
         Sentences.term("`UNSOLD = 0, SOLD = 1, CHANGED = 2, RETURNED = 3`: States of copies.", "add 0 0 0 1 1 1 = 0",
                 "freeze 0 0 0 1 1 1 0 = 0", "copyState 0 0 = " + CanvasRoom.UNSOLD, "sell 0 0 = 0",
                 "copyState 0 0 = " + CanvasRoom.SOLD, "takeDown 0 = 1", "copyState 0 0 = " + CanvasRoom.CHANGED,
